@@ -833,7 +833,8 @@ public final class BoundFrames {
 
         int undone() {
             int count = 0;
-            for (int k = 0; k < spread(); k++) {
+            int numbered = spread();
+            for (int k = 0; k < numbered; k++) {
                 count += flag(!done[slot(start + k)]);
             }
             return count;
@@ -900,7 +901,8 @@ public final class BoundFrames {
             if (!awaits) {
                 return;
             }
-            for (int k = 0; k < spread(); k++) {
+            int numbered = spread();
+            for (int k = 0; k < numbered; k++) {
                 int bit = ahead(number, start + k);
                 if (bit < window && ((bits >> bit) & 1) == 1) {
                     done[slot(start + k)] = true;
@@ -917,7 +919,8 @@ public final class BoundFrames {
         }
 
         void giveUp() {
-            for (int k = 0; k < spread(); k++) {
+            int numbered = spread();
+            for (int k = 0; k < numbered; k++) {
                 int place = slot(start + k);
                 if (!done[place] && tried[place] >= tries) {
                     done[place] = true;
@@ -926,8 +929,7 @@ public final class BoundFrames {
                     tally.numbersLost++;
                 }
             }
-            int most = spread();
-            for (int k = 0; k < most && done[slot(start)]; k++) {
+            for (int k = 0; k < numbered && done[slot(start)]; k++) {
                 start = round(start + 1);
             }
         }

@@ -374,6 +374,17 @@ public final class NearEndTest {
         check.due("no BAR for a BUNDLE that may be tried again", x.near(0, 8), 0);
         Scene.exchange(x, 0, 0);
         check.due("nothing to send", x.bundle(0), STATE);
+        Scene.feed(x, 0, 3, 2, 1);
+        x.bundle(0);
+        x.expire(0);
+        x.bundle(0);
+        x.expire(0);
+        Scene.exchange(x, 0, 0);
+        x.feed(0, 5, 1);
+        x.bundle(0);
+        x.expire(0);
+        check.due("nor for one behind a BAR that was answered", x.near(0, 8), 0);
+        check.due("it goes again", x.bundle(0), 1);
     }
 
     private static void givesUpWithAnswer() {

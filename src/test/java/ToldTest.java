@@ -241,6 +241,7 @@ public final class ToldTest {
         x.feed(1, 999, 20);
         x.feed(1, 256, 2);
         x.bundle(1);
+        check.due("CHECK", x.frame(0, 1, 3), slowCheck(1, 1, 256, 2));
         check.due("NUMBER", x.frame(0, 1, 0), 1);
         check.due("VALUE", x.frame(0, 0, 1), 999);
         check.due("VALUE", x.frame(0, 1, 1), 256);

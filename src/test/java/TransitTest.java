@@ -23,6 +23,9 @@ public final class TransitTest {
         hastyWaits();
         hastyWaitsAsleep();
         onlyHastyWaits();
+        hastyOfEachClass();
+        barMovesFromOn();
+        aWholeWindowIsReleased();
         barWhereFromIs();
         check.end();
     }
@@ -351,6 +354,65 @@ public final class TransitTest {
             check.due("pass(1)", x.pass(1), time);
         }
         check.due("pass(60)", x.pass(60), 80);
+    }
+
+    private static void hastyOfEachClass() {
+        BoundFrames x = Scene.withAir("9+0*9:8");
+        for (int of = 0; of < 4; of++) {
+            Scene.setUp(x, of, 1, 12, 4, 3 + of);
+            Scene.feed(x, of, 1, 3, 1);
+            x.bundle(of);
+            x.deliver(0, 1 + (of & 1) * 2);
+            x.deliver(0, 0);
+        }
+        x.pass(2);
+        for (int of = 0; of < 4; of++) {
+            check.due("WAITED of CLASS " + of, x.far(of, 7), 2);
+        }
+        for (int of = 0; of < 4; of++) {
+            check.due("FROM ahead of HOLD", x.far(of, 3), 0);
+            x.pass(1);
+            check.due("FROM behind HOLD", x.far(of, 3), 3);
+            check.due("the latest", x.released(of, 0), 3);
+            check.due("the first", x.released(of, 1 - (of & 1)), 2 + (of & 1));
+        }
+    }
+
+    /** A BAR brings FROM to where something is HELD, and on. */
+    private static void barMovesFromOn() {
+        BoundFrames x = Scene.withAir("9+0*9:8");
+        Scene.setUp(x, 1, 0, 6, 2, 1);
+        Scene.feed(x, 1, 1, 2, 1);
+        x.bundle(1);
+        x.expire(1);
+        Scene.feed(x, 1, 3, 3, 1);
+        x.bundle(1);
+        x.deliver(0, 1 + 2 + 16);
+        x.expire(1);
+        check.due("START", x.near(1, 3), 2);
+        x.bundle(1);
+        check.due("NUMBER of the BAR", x.under(0, 3), 2);
+        x.deliver(0, 0);
+        check.due("FROM moved on", x.far(1, 3), 4);
+        check.due("MARK did not", x.far(1, 4), 2);
+        check.due("bits", x.under(0, 4), 3);
+        check.due("RELEASED", x.released(1, 0), 4);
+        x.deliver(0, 0);
+        check.due("START behind the ANSWER of the BAR", x.near(1, 3), 4);
+    }
+
+    /** One NUMBER that was missing lets all that is HELD behind it go. */
+    private static void aWholeWindowIsReleased() {
+        BoundFrames x = Scene.withAir("9+0*9:8");
+        Scene.setUp(x, 0, 0, 12, 4, 1);
+        Scene.feed(x, 0, 1, 12, 1);
+        Scene.exchange(x, 0, 1);
+        Scene.exchange(x, 0, 1);
+        check.due("HELD", x.far(0, 6), 11);
+        Scene.exchange(x, 0, 0);
+        check.due("FROM", x.far(0, 3), 12);
+        check.due("RELEASED", x.count(4), 12);
+        check.due("the latest", x.released(0, 0), 12);
     }
 
     private static BoundFrames waiting(String air, int kind, int hold) {
