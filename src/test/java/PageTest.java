@@ -95,7 +95,7 @@ public final class PageTest {
     /** All that was is gone with another AIR, but not with a text that is none. */
     private static void anotherAir() {
         BoundFrames x = Scene.withAir("9+0*9:8");
-        Scene.setUp(x, 0, 1, 4, 1, 5);
+        Scene.setUp(x, 0, 1, 4, 1, 20);
         Scene.feed(x, 0, 10, 5, 1);
         x.bundle(0);
         x.deliver(0, 1);
@@ -103,6 +103,7 @@ public final class PageTest {
         x.expire(0);
         x.open(1, 0, 4, 2, 5);
         x.pass(7);
+        check.due("WAITED ahead of another air", x.far(0, 7), 7);
         Scene.write(x, "1+0*1:9");
         long before = x.digest();
         check.due("air that is none", x.air(), BoundFrames.STATE);
@@ -130,5 +131,6 @@ public final class PageTest {
         check.due("FROM of a new session", x.far(0, 3), 0);
         check.due("bits of a new session", x.far(0, 5), 0);
         check.due("HELD of a new session", x.far(0, 6), 0);
+        check.due("WAITED of a new session", x.far(0, 7), 0);
     }
 }
