@@ -38,4 +38,21 @@ final class Scene {
         x.deliver(0, damage);
         x.deliver(0, 0);
     }
+
+    /** Feeds so many and brings them over whole, so that START, NEXT and FROM are so much farther. */
+    static void advance(BoundFrames x, int of, int howMany) {
+        int most = Math.min(x.about(3), x.near(of, 1));
+        for (int left = howMany; left > 0; left -= most) {
+            feed(x, of, 1, Math.min(left, most), 1);
+            exchange(x, of, 0);
+        }
+    }
+
+    /** An OPEN SESSION of CLASS 0 at a START: the AIR is wide, and no LETTER is under way. */
+    static BoundFrames openAt(int start, int kind, int window, int tries, int hold) {
+        BoundFrames x = withAir("9+0*9:8");
+        setUp(x, 0, kind, window, tries, hold);
+        advance(x, 0, start);
+        return x;
+    }
 }
