@@ -46,70 +46,13 @@ public final class AllTest {
         tellsCounts(x, 0, 0, 0, 0, 0, 0, 0, 0, 0, 2);
     }
 
-    /** The digest once more, from what the other calls tell. */
-    private static long digestOf(BoundFrames x) {
-        long h = 1543;
-        if (x.about(0) != BoundFrames.STATE) {
-            for (int what = 0; what < 7; what++) {
-                h = 31 * h + x.about(what);
-            }
-            for (int of = 0; of < 4; of++) {
-                h = digestOfClass(x, of, h);
-            }
-            for (int place = 0; place < x.count(7); place++) {
-                for (int what = 0; what < 6; what++) {
-                    h = 31 * h + x.under(place, what);
-                }
-                for (int frame = 0; frame < x.under(place, 2); frame++) {
-                    for (int what = 0; what < 4; what++) {
-                        h = 31 * h + x.frame(place, frame, what);
-                    }
-                }
-            }
-        }
-        return h;
-    }
-
-    private static long digestOfClass(BoundFrames x, int of, long before) {
-        long h = before;
-        for (int what = 0; what < 10; what++) {
-            h = 31 * h + x.near(of, what);
-        }
-        for (int place = 0; x.given(of, place, 0) != BoundFrames.UNKNOWN; place++) {
-            for (int what = 0; what < 5; what++) {
-                h = 31 * h + x.given(of, place, what);
-            }
-        }
-        for (int what = 0; what < 9; what++) {
-            h = 31 * h + x.far(of, what);
-        }
-        for (int place = 0; place < x.far(of, 2); place++) {
-            h = 31 * h + x.held(of, place);
-        }
-        for (int place = 0; x.released(of, place) != BoundFrames.UNKNOWN; place++) {
-            h = 31 * h + x.released(of, place);
-        }
-        return h;
-    }
-
-    private static long withEnd(BoundFrames x, long before, String page) {
-        long h = before;
-        for (int i = 0; i < page.length(); i++) {
-            h = 31 * h + page.charAt(i);
-        }
-        for (int what = 0; what < 10; what++) {
-            h = 31 * h + x.count(what);
-        }
-        return h;
-    }
-
     private static void digests() {
         BoundFrames x = new BoundFrames();
-        check.due("digest of a new one", x.digest(), withEnd(x, digestOf(x), ""));
+        check.due("digest of a new one", x.digest(), Told.digest(x, ""));
         Scene.write(x, "xyz");
-        check.due("digest with a PAGE", x.digest(), withEnd(x, digestOf(x), "xyz"));
+        check.due("digest with a PAGE", x.digest(), Told.digest(x, "xyz"));
         x = Scene.withAir("9+0*9:8");
-        check.due("digest with an AIR", x.digest(), withEnd(x, digestOf(x), ""));
+        check.due("digest with an AIR", x.digest(), Told.digest(x, ""));
         Scene.setUp(x, 1, 1, 12, 2, 9);
         Scene.setUp(x, 3, 2, 3, 2, 9);
         Scene.feed(x, 1, 901, 14, 2);
@@ -122,7 +65,7 @@ public final class AllTest {
         x.open(0, 0, 15, 1, 1);
         x.pass(2);
         Scene.write(x, " ~");
-        check.due("digest with all", x.digest(), withEnd(x, digestOf(x), " ~"));
+        check.due("digest with all", x.digest(), Told.digest(x, " ~"));
         check.due("digest once more", x.digest(), x.digest());
     }
 

@@ -588,11 +588,15 @@ public final class FarEdgesTest {
     private static void askEndsWhatIsThere() {
         for (int kind = 0; kind < 3; kind++) {
             BoundFrames x = came(1, 12, 3, 8, 1 + 8);
-            x.deliver(0, 0);
+            x.expire(0);
+            x.bundle(0);
+            x.deliver(0, 1 + 8);
+            x.expire(0);
             x.pass(2);
             x.close(0);
             x.lose(0);
             check.due("WAITED of the old one", x.far(0, 7), 2);
+            check.due("DOUBLED of the old one", x.far(0, 8), 6);
             x.open(0, kind, 3, 1, 2);
             check.due("the old one is there until ASK comes", x.far(0, 6), 6);
             x.deliver(0, 0);

@@ -9,6 +9,7 @@ public final class NearEdgesTest {
         openTellsHowManyAreUnderWay();
         openBehindExpire();
         aSessionBeginsAtNought();
+        nothingOfAnEarlierSessionStays();
         closeOfNothingAndOfTheMost();
         closeCountsWhatIsNotDoneAlone();
         closeSendsEndAndNoBar();
@@ -26,6 +27,7 @@ public final class NearEdgesTest {
         theFirstThatDoesNotFitEnds();
         anOldOneThatDoesNotFitEnds();
         whatIsDoneTakesNoRoom();
+        lengthsOfOldAndNewTogether();
         bundleAtTheEdgesOfATurn();
         aBarGoesAheadOfABundle();
         aBarNeedsNoRoom();
@@ -35,6 +37,7 @@ public final class NearEdgesTest {
         expireTellsHowManyWereLost();
         expireLosesItsOwnClassAlone();
         aBarIsSentAgainUntilItIsAnswered();
+        aBarThatWasAnsweredIsNotSentAgain();
         answerBitsAtBothEndsOfTheSpan();
         answerWithoutWhatIsAWindowAhead();
         check.end();
@@ -106,6 +109,32 @@ public final class NearEdgesTest {
         check.due("nothing is given", x.given(0, 0, 0), BoundFrames.UNKNOWN);
         check.due("nothing to send", x.bundle(0), STATE);
         check.due("LOST in all", x.count(6), 6);
+    }
+
+    /** TRIED and DONE of NUMBERS that the earlier SESSION had given: the new one gives them anew. */
+    private static void nothingOfAnEarlierSessionStays() {
+        for (int start = 0; start <= 16; start++) {
+            BoundFrames x = Scene.openAt(start, 0, 8, 4, 1);
+            Scene.feed(x, 0, 101, 8, 1);
+            for (int tried = 0; tried < 3; tried++) {
+                x.bundle(0);
+                x.expire(0);
+            }
+            check.due("close", x.close(0), 8);
+            x.deliver(0, 0);
+            Scene.setUp(x, 0, 0, 8, 1, 1);
+            for (int number = 0; number < 20; number++) {
+                x.feed(0, 1 + number, 1);
+                x.bundle(0);
+                check.due("TRIED", x.given(0, 0, 3), 1);
+                check.due("DONE", x.given(0, 0, 4), 0);
+                x.deliver(0, 0);
+                x.deliver(0, 0);
+                check.due("START", x.near(0, 3), number + 1);
+                check.due("LOST", x.near(0, 9), 0);
+                check.due("BAR", x.near(0, 8), 0);
+            }
+        }
     }
 
     // ---- close
@@ -389,6 +418,36 @@ public final class NearEdgesTest {
         check.due("the one that is DONE is not TRIED", x.given(0, 1, 3), 1);
     }
 
+    /** Old ones and the QUEUE fill one room: by how much is left of it as many of the QUEUE go. */
+    private static void lengthsOfOldAndNewTogether() {
+        int[] queue = {1, 2, 3, 4, 5, 6};
+        for (int old = 1; old <= 4; old++) {
+            for (int length = 1; length <= 9; length++) {
+                BoundFrames x = Scene.withAir("4+0*9:8");
+                Scene.setUp(x, 0, 0, 12, 4, 1);
+                Scene.feed(x, 0, 1, old, length);
+                x.bundle(0);
+                x.expire(0);
+                x.pass(2);
+                for (int each : queue) {
+                    x.feed(0, 50 + each, each);
+                }
+                int room = 18;
+                int size = 0;
+                for (int k = 0; k < old + queue.length && size < 8; k++) {
+                    room -= k < old ? length : queue[k - old];
+                    if (room < 0) {
+                        break;
+                    }
+                    size++;
+                }
+                check.due(old + " old ones of LENGTH " + length, x.bundle(0), size);
+                check.due("NEXT", x.near(0, 4), Math.max(old, size));
+                check.due("QUEUE", x.near(0, 5), queue.length - Math.max(0, size - old));
+            }
+        }
+    }
+
     /** The last TICK AWAKE, the first ASLEEP, the last ASLEEP, the first AWAKE again. */
     private static void bundleAtTheEdgesOfATurn() {
         int[] times = {0, 2, 3, 7, 8, 10, 11, 15, 16};
@@ -578,6 +637,24 @@ public final class NearEdgesTest {
         Scene.exchange(x, 0, 0);
         check.due("answered: not again", x.near(0, 8), 0);
         check.due("a BUNDLE goes", x.bundle(0), 2);
+    }
+
+    /** "if a BAR had gone": not if a BUNDLE had, though a BAR was ahead of it. */
+    private static void aBarThatWasAnsweredIsNotSentAgain() {
+        BoundFrames x = Scene.openAt(0, 0, 4, 2, 1);
+        x.feed(0, 1, 1);
+        x.bundle(0);
+        x.expire(0);
+        x.bundle(0);
+        x.expire(0);
+        check.due("BAR", x.bundle(0), 0);
+        x.deliver(0, 0);
+        x.deliver(0, 0);
+        x.feed(0, 2, 1);
+        check.due("BUNDLE", x.bundle(0), 1);
+        x.expire(0);
+        check.due("no BAR is to be sent", x.near(0, 8), 0);
+        check.due("the BUNDLE goes again", x.bundle(0), 1);
     }
 
     // ---- ANSWER

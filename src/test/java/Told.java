@@ -1,3 +1,6 @@
+import java.util.ArrayList;
+import java.util.List;
+
 /** Everything that an object tells, as a text: two objects that tell the same have the same text. */
 final class Told {
     private Told() {
@@ -55,6 +58,64 @@ final class Told {
             for (int frame = 0; frame < x.under(place, 2); frame++) {
                 for (int what = 0; what < 4; what++) {
                     put(told, "frame " + place + "," + frame + "," + what, x.frame(place, frame, what));
+                }
+            }
+        }
+    }
+
+    /** The digest once more, by the words of the document, from what the other calls tell; page has THE PAGE's letters. */
+    static long digest(BoundFrames x, String page) {
+        List<Integer> numbers = new ArrayList<>();
+        if (x.about(0) != BoundFrames.STATE) {
+            for (int what = 0; what < 7; what++) {
+                numbers.add(x.about(what));
+            }
+            for (int of = 0; of < 4; of++) {
+                numbersOfClass(numbers, x, of);
+            }
+            numbersOfLetters(numbers, x);
+        }
+        for (int i = 0; i < page.length(); i++) {
+            numbers.add((int) page.charAt(i));
+        }
+        for (int what = 0; what < 10; what++) {
+            numbers.add(x.count(what));
+        }
+        long h = 1543;
+        for (int number : numbers) {
+            h = 31 * h + number;
+        }
+        return h;
+    }
+
+    private static void numbersOfClass(List<Integer> numbers, BoundFrames x, int of) {
+        for (int what = 0; what < 10; what++) {
+            numbers.add(x.near(of, what));
+        }
+        for (int place = 0; x.given(of, place, 0) != BoundFrames.UNKNOWN; place++) {
+            for (int what = 0; what < 5; what++) {
+                numbers.add(x.given(of, place, what));
+            }
+        }
+        for (int what = 0; what < 9; what++) {
+            numbers.add(x.far(of, what));
+        }
+        for (int place = 0; place < x.far(of, 2); place++) {
+            numbers.add(x.held(of, place));
+        }
+        for (int place = 0; x.released(of, place) != BoundFrames.UNKNOWN; place++) {
+            numbers.add(x.released(of, place));
+        }
+    }
+
+    private static void numbersOfLetters(List<Integer> numbers, BoundFrames x) {
+        for (int place = 0; place < x.count(7); place++) {
+            for (int what = 0; what < 6; what++) {
+                numbers.add(x.under(place, what));
+            }
+            for (int frame = 0; frame < x.under(place, 2); frame++) {
+                for (int what = 0; what < 4; what++) {
+                    numbers.add(x.frame(place, frame, what));
                 }
             }
         }

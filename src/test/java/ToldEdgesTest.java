@@ -25,6 +25,7 @@ public final class ToldEdgesTest {
         countsOfNothing();
         countsSinceTheAirWasRead();
         digestOfEachState();
+        digestOfFullRows();
         digestTellsWhatChanged();
         check.end();
     }
@@ -371,15 +372,17 @@ public final class ToldEdgesTest {
     private static void countsSinceTheAirWasRead() {
         BoundFrames x = Scene.withAir("9+0*9:8");
         for (int airs = 1; airs <= 3; airs++) {
-            Scene.setUp(x, 0, 0, 4, 1, 1);
+            Scene.setUp(x, 0, 0, 4, 2, 1);
             Scene.feed(x, 0, 1, 4, 1);
-            x.bundle(0);
-            x.deliver(0, 1);
-            x.lose(0);
-            x.expire(0);
+            for (int tried = 0; tried < 2; tried++) {
+                x.bundle(0);
+                x.deliver(0, 2);
+                x.lose(0);
+                x.expire(0);
+            }
             x.bundle(0);
             Scene.write(x, "12");
-            int[] want = {5, 1, 4, 3, 0, 0, 4, 1, 2, airs};
+            int[] want = {7, 2, 8, 6, 1, 3, 4, 1, 2, airs};
             for (int what = 0; what < 10; what++) {
                 check.due("count " + what + " of AIR " + airs, x.count(what), want[what]);
             }
@@ -419,6 +422,36 @@ public final class ToldEdgesTest {
         }
         asked = mix(asked, 0, 0, 0, NONE, NONE, 14);
         check.due("ASKED", x.digest(), mix(asked, 1, 0, 0, 0, 0, 0, 0, 1, 0, 1));
+    }
+
+    /** Twelve are given, eleven HELD or HAD, ten RELEASED, four LETTERS under way, and THE PAGE is full. */
+    private static void digestOfFullRows() {
+        for (int kind = 0; kind < 3; kind++) {
+            BoundFrames x = Scene.openAt(11, kind, 12, 4, 20);
+            Scene.feed(x, 0, 901, 24, 1);
+            Scene.exchange(x, 0, 1);
+            x.bundle(0);
+            x.deliver(0, 1);
+            check.due("eleven", x.far(0, 6), kind == 2 ? 0 : 11);
+            check.due("twelve", x.given(0, 11, 0), 22);
+            check.due("ten", x.released(0, 9), kind == 2 ? 903 : 2);
+            check.due("with an ANSWER", x.digest(), Told.digest(x, ""));
+            x.deliver(0, 0);
+            x.pass(1);
+            for (int of = 1; of < 4; of++) {
+                x.open(of, kind, 15, 4, 20);
+            }
+            x.deliver(0, 0);
+            x.bundle(0);
+            Scene.write(x, " ~12+*:89");
+            check.due("four", x.count(7), 4);
+            check.due("with four LETTERS", x.digest(), Told.digest(x, " ~12+*:89"));
+        }
+        BoundFrames x = Scene.openAt(0, 0, 8, 4, 20);
+        Scene.feed(x, 0, 901, 8, 2);
+        x.bundle(0);
+        check.due("eight SUB-FRAMES", x.frame(0, 7, 1), 908);
+        check.due("with a BUNDLE", x.digest(), Told.digest(x, ""));
     }
 
     /** Each call that changes what is told changes the digest; one that tells does not. */
