@@ -321,9 +321,11 @@ public final class ByHandTest {
 
     private static void aBarWithoutASession() throws ReflectiveOperationException {
         BoundFrames x = barUnderWay(0);
+        keep(x, START - 2, new int[] {1, 2, 3}, false);
         set(farEnd(x), "there", false);
         int sent = x.count(0);
         check.due("deliver", x.deliver(0, 0), 1);
+        check.due("nothing is RELEASED", x.count(4), START - 1);
         check.due("no ANSWER goes", x.count(0), sent);
         check.due("under way", x.count(7), 0);
         check.due("no SESSION is there", x.far(0, 0), 0);

@@ -26,6 +26,7 @@ public final class FarEdgesTest {
         doubledIsAnswered();
         theLastOfTheSpanIsHeld();
         fromMovesOnAsFarAsItCan();
+        fromMovesOverAWholeSpan();
         looseOnesAreReleasedOutOfOrder();
         looseFromMovesOnOverWhatWasHad();
         barAheadOfMarkAndFrom();
@@ -413,6 +414,30 @@ public final class FarEdgesTest {
                 int number = from + place;
                 boolean held = number < 8 && (damage >> number & 1) == 0;
                 check.due("held at " + place, x.held(0, place), held ? 11 + number : NONE);
+            }
+        }
+    }
+
+    /** All of the SPAN but its first one is HELD or was HAD; then that one comes. */
+    private static void fromMovesOverAWholeSpan() {
+        for (int kind = 0; kind < 3; kind++) {
+            for (int window = 1; window <= 12; window++) {
+                BoundFrames x = Scene.openAt(0, kind, window, 4, 20);
+                Scene.feed(x, 0, 101, window, 1);
+                Scene.exchange(x, 0, 1);
+                if (window > 8 || window == 1) {
+                    x.expire(0);
+                    Scene.exchange(x, 0, 1);
+                }
+                check.due("FROM", x.far(0, 3), 0);
+                x.expire(0);
+                x.bundle(0);
+                x.deliver(0, 0);
+                check.due("FROM over WINDOW " + window, x.far(0, 3), window);
+                check.due("HELD", x.far(0, 6), 0);
+                check.due("RELEASED", x.count(4), window);
+                check.due("the latest", x.released(0, 0), kind == 2 ? 101 : 100 + window);
+                check.due("DOUBLED", x.count(5), 0);
             }
         }
     }
