@@ -41,7 +41,7 @@ final class Scene {
 
     /** Feeds so many and brings them over whole, so that START, NEXT and FROM are so much farther. */
     static void advance(BoundFrames x, int of, int howMany) {
-        int most = Math.min(x.about(3), x.near(of, 1));
+        int most = Math.max(1, Math.min(x.about(3), x.near(of, 1)));
         for (int left = howMany; left > 0; left -= most) {
             feed(x, of, 1, Math.min(left, most), 1);
             exchange(x, of, 0);

@@ -3,6 +3,9 @@ import java.util.List;
 
 /** Everything that an object tells, as a text: two objects that tell the same have the same text. */
 final class Told {
+    /** More places than any row has: a row without an end is told so far. */
+    private static final int FAR_ENOUGH = 100;
+
     private Told() {
     }
 
@@ -28,7 +31,7 @@ final class Told {
         for (int what = 0; what < 10; what++) {
             put(told, "near " + of + "," + what, x.near(of, what));
         }
-        for (int place = 0; x.given(of, place, 0) >= 0; place++) {
+        for (int place = 0; place < FAR_ENOUGH && x.given(of, place, 0) >= 0; place++) {
             for (int what = 0; what < 5; what++) {
                 put(told, "given " + of + "," + place + "," + what, x.given(of, place, what));
             }
@@ -45,7 +48,7 @@ final class Told {
         for (int place = 0; place < x.far(of, 2); place++) {
             put(told, "held " + of + "," + place, x.held(of, place));
         }
-        for (int place = 0; x.released(of, place) >= 0; place++) {
+        for (int place = 0; place < FAR_ENOUGH && x.released(of, place) >= 0; place++) {
             put(told, "released " + of + "," + place, x.released(of, place));
         }
     }
@@ -92,7 +95,7 @@ final class Told {
         for (int what = 0; what < 10; what++) {
             numbers.add(x.near(of, what));
         }
-        for (int place = 0; x.given(of, place, 0) != BoundFrames.UNKNOWN; place++) {
+        for (int place = 0; place < FAR_ENOUGH && x.given(of, place, 0) >= 0; place++) {
             for (int what = 0; what < 5; what++) {
                 numbers.add(x.given(of, place, what));
             }
@@ -103,7 +106,7 @@ final class Told {
         for (int place = 0; place < x.far(of, 2); place++) {
             numbers.add(x.held(of, place));
         }
-        for (int place = 0; x.released(of, place) != BoundFrames.UNKNOWN; place++) {
+        for (int place = 0; place < FAR_ENOUGH && x.released(of, place) >= 0; place++) {
             numbers.add(x.released(of, place));
         }
     }
