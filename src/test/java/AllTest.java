@@ -104,10 +104,10 @@ public final class AllTest {
     }
 
     private static void anyArguments() {
-        for (int seed = 0; seed < 100; seed++) {
+        for (int seed = 0; seed < 700; seed++) {
             Random random = new Random(seed);
             BoundFrames x = seed % 5 == 0 ? new BoundFrames() : Scene.withAir("9+1*9:8");
-            for (int i = 0; i < 1000; i++) {
+            for (int i = 0; i < 150; i++) {
                 int which = random.nextInt(21);
                 long before = x.digest();
                 long got = call(x, which, random);

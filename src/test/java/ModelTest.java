@@ -6,8 +6,10 @@ import java.util.Random;
  */
 public final class ModelTest {
     private static final Check check = new Check("ModelTest");
-    private static final int RUNS = 1500;
-    private static final int STEPS = 250;
+    private static final int RUNS = 3000;
+    /** An object is used for 512 calls at most; a step takes no more than twelve. */
+    private static final int MOST_CALLS = 512;
+    private static final int CALLS_OF_A_STEP = 12;
     private static final int[] seen = new int[8];
 
     public static void main(String[] args) {
@@ -32,6 +34,7 @@ public final class ModelTest {
     private final int classes;
     private final int[] lastStart = new int[4];
     private final StringBuilder told = new StringBuilder();
+    private int calls = 0;
 
     private ModelTest(int run) {
         this.run = run;
@@ -43,31 +46,38 @@ public final class ModelTest {
 
     private void drive() {
         readAir();
-        for (int i = 0; i < STEPS && check.isClean(); i++) {
+        if (classes == 1) {
+            open(0);
+            deliver();
+            deliver();
+        }
+        while (calls + CALLS_OF_A_STEP <= MOST_CALLS && check.isClean()) {
             step();
             same("digest", x.digest(), m.digest());
             look();
         }
-        seen[0] += x.count(4);
-        seen[1] += x.count(5);
-        seen[2] += x.count(6);
-        seen[3] += x.count(1);
+        seen[0] += m.count(4);
+        seen[1] += m.count(5);
+        seen[2] += m.count(6);
+        seen[3] += m.count(1);
         if (!check.isClean()) {
             System.out.println("run " + run + ":" + told);
         }
     }
 
+    /** Looks at the Model, so that it takes no call of the object. */
     private void look() {
         for (int of = 0; of < 4; of++) {
-            int start = x.near(of, 3);
+            int start = m.near(of, 3);
             seen[4] += start >= 0 && start < lastStart[of] - 32 ? 1 : 0;
             lastStart[of] = start;
-            seen[5] += x.far(of, 7) > 0 ? 1 : 0;
-            seen[6] += x.held(of, 1) == 0 ? 1 : 0;
+            seen[5] += m.far(of, 7) > 0 ? 1 : 0;
+            seen[6] += m.held(of, 1) == 0 ? 1 : 0;
         }
     }
 
     private void same(String call, long got, long want) {
+        calls++;
         check.due(call, got, want);
         if (want == BoundFrames.FULL) {
             seen[7]++;
@@ -108,11 +118,15 @@ public final class ModelTest {
 
     private void step() {
         int of = number(0, classes - 1);
+        if (chance(80)) {
+            unstick(of);
+        }
         int dice = random.nextInt(100);
-        if (dice < 30) {
+        if (dice < (classes == 1 ? 5 : 30)) {
             deliver();
         } else if (dice < 55) {
-            for (int i = pick(1, 6); i > 0; i--) {
+            boolean hungry = m.near(of, 5) < 12 || chance(15);
+            for (int i = hungry ? pick(1, 6) : 0; i > 0; i--) {
                 feed(of);
             }
             if (classes == 1) {
@@ -125,12 +139,9 @@ public final class ModelTest {
         } else if (dice < 82) {
             open(of);
         } else if (dice < 88) {
-            int ticks = chance(80) ? number(1, 4) : number(1, 60);
-            note("pass " + ticks);
-            same("pass", x.pass(ticks), m.pass(ticks));
+            pass(chance(80) ? number(1, 4) : number(1, 60));
         } else if (dice < 94) {
-            note("expire " + of);
-            same("expire", x.expire(of), m.expire(of));
+            expire(of);
         } else if (dice < 95 && chance(100 / (5 - classes))) {
             note("close " + of);
             same("close", x.close(of), m.close(of));
@@ -141,13 +152,35 @@ public final class ModelTest {
         }
     }
 
+    /** When nothing goes on by itself: waits no longer, asks once more, lets the far end wake. */
+    private void unstick(int of) {
+        boolean waits = m.near(of, 7) == 1 || m.near(of, 0) == 1;
+        if (waits && m.count(7) == 0) {
+            expire(of);
+        } else if (m.near(of, 0) == 0) {
+            open(of);
+        } else if (m.about(5) == 0) {
+            pass(pick(1, 4));
+        }
+    }
+
+    private void expire(int of) {
+        note("expire " + of);
+        same("expire", x.expire(of), m.expire(of));
+    }
+
+    private void pass(int ticks) {
+        note("pass " + ticks);
+        same("pass", x.pass(ticks), m.pass(ticks));
+    }
+
     private void bundle(int of) {
         note("bundle " + of);
         same("bundle", x.bundle(of), m.bundle(of));
     }
 
     private void deliver() {
-        int place = number(0, Math.max(0, x.count(7) - 1));
+        int place = number(0, Math.max(0, m.count(7) - 1));
         if (chance(harm / 2)) {
             note("lose " + place);
             same("lose", x.lose(place), m.lose(place));
@@ -160,7 +193,8 @@ public final class ModelTest {
 
     private void feed(int of) {
         int value = number(1, 999);
-        int length = chance(80) ? number(1, 4) : number(1, 20);
+        int room = m.about(0) * m.about(2);
+        int length = chance(95) ? number(1, Math.min(4, room)) : number(1, 20);
         note("feed " + of + "," + value + "," + length);
         same("feed", x.feed(of, value, length), m.feed(of, value, length));
     }

@@ -424,28 +424,40 @@ public final class ToldEdgesTest {
         check.due("ASKED", x.digest(), mix(asked, 1, 0, 0, 0, 0, 0, 0, 1, 0, 1));
     }
 
-    /** Twelve are given, eleven HELD or HAD, ten RELEASED, four LETTERS under way, and THE PAGE is full. */
+    /** Twelve are given, eleven HELD or HAD, ten RELEASED; an ANSWER is under way. */
+    private static BoundFrames fullRows(int kind) {
+        BoundFrames x = Scene.openAt(11, kind, 12, 4, 20);
+        Scene.feed(x, 0, 901, 24, 1);
+        Scene.exchange(x, 0, 1);
+        x.bundle(0);
+        x.deliver(0, 1);
+        return x;
+    }
+
+    /** The same with four LETTERS under way and a full PAGE. */
+    private static BoundFrames fullAir(int kind) {
+        BoundFrames x = fullRows(kind);
+        x.deliver(0, 0);
+        x.pass(1);
+        for (int of = 1; of < 4; of++) {
+            x.open(of, kind, 15, 4, 20);
+        }
+        x.deliver(0, 0);
+        x.bundle(0);
+        Scene.write(x, " ~12+*:89");
+        return x;
+    }
+
     private static void digestOfFullRows() {
         for (int kind = 0; kind < 3; kind++) {
-            BoundFrames x = Scene.openAt(11, kind, 12, 4, 20);
-            Scene.feed(x, 0, 901, 24, 1);
-            Scene.exchange(x, 0, 1);
-            x.bundle(0);
-            x.deliver(0, 1);
+            BoundFrames x = fullRows(kind);
             check.due("eleven", x.far(0, 6), kind == 2 ? 0 : 11);
             check.due("twelve", x.given(0, 11, 0), 22);
             check.due("ten", x.released(0, 9), kind == 2 ? 903 : 2);
             check.due("with an ANSWER", x.digest(), Told.digest(x, ""));
-            x.deliver(0, 0);
-            x.pass(1);
-            for (int of = 1; of < 4; of++) {
-                x.open(of, kind, 15, 4, 20);
-            }
-            x.deliver(0, 0);
-            x.bundle(0);
-            Scene.write(x, " ~12+*:89");
-            check.due("four", x.count(7), 4);
-            check.due("with four LETTERS", x.digest(), Told.digest(x, " ~12+*:89"));
+            BoundFrames y = fullAir(kind);
+            check.due("four", y.count(7), 4);
+            check.due("with four LETTERS", y.digest(), Told.digest(y, " ~12+*:89"));
         }
         BoundFrames x = Scene.openAt(0, 0, 8, 4, 20);
         Scene.feed(x, 0, 901, 8, 2);
